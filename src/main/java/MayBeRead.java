@@ -450,6 +450,11 @@ public final class MayBeRead {
         }
     }
 
+    private static long casesOf(int letter) {
+        int mark = letter - 'a';
+        return mark >= 0 && mark < MARK_CASES.length ? MARK_CASES[mark] : 0;
+    }
+
     private static boolean isJoin(int kind) {
         return kind >= AND;
     }
@@ -784,7 +789,7 @@ public final class MayBeRead {
             long behind = look(meanings, tree.behind(i));
             switch (tree.kind(i)) {
                 case LETTER:
-                    return look(MARK_CASES, words.at(tree.from(i)) - 'a');
+                    return casesOf(words.at(tree.from(i)));
                 case NOT:
                     return EVERY_CASE & ~ahead;
                 case AND:
