@@ -464,7 +464,12 @@ public final class MayBeRead {
     }
 
     private static int leastCase(long cases) {
-        return cases == 0 ? NONE : Long.numberOfTrailingZeros(cases);
+        for (int set = 0; set < CASES; set++) {
+            if (bit(cases, set) == 1) {
+                return set;
+            }
+        }
+        return NONE;
     }
 
     // Rows are looked into and written through these four alone, so that every index is tested.

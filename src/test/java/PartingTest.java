@@ -52,6 +52,33 @@ public final class PartingTest {
         fewest("a&!a>b>c", 8, -9);
         fewest("a&!b|b>c", 9, -9);
         DUE.is("fewest() where spent", Due.of(SPENT).fewest(), -5);
+        fewestAtTheEdges();
+        fewestOfTheSentenceThatIs();
+    }
+
+    /** Only few sets of cases part all here: 0 or 31 is in each, or two that stand side by side. */
+    private static void fewestAtTheEdges() {
+        fewest("c>d>e|b|d|a", 2, 1);
+        fewest("c&e&b&d-b-a", 2, 1);
+        fewest("e&c&d-!a-b-a", 4, 2);
+        fewest("c|d>a>e|b|a", 3, 2);
+        fewest("e&d&a-e-b&c", 3, 2);
+        fewest("e&d&c&!b-a-a", 3, 2);
+        fewest("d|e|(c>d>b&a)", 5, 3);
+        fewest("c>c>d|e>b|a", 5, 3);
+        fewest("d&e&b-a-b-c", 5, 3);
+        fewest("c|e>e>d|b|a", 5, 3);
+    }
+
+    private static void fewestOfTheSentenceThatIs() {
+        MayBeRead x = Due.of("!a&b|c");
+        DUE.is("fewest() of the first", x.fewest(), 3);
+        Due.read(x, "a-b-c");
+        DUE.is("fewest() of the second", x.fewest(), 1);
+        DUE.is("unlike() of the second", x.unlike(), 2);
+        Due.read(x, "a");
+        DUE.is("fewest() of the third", x.fewest(), 0);
+        DUE.is("unlike() of the third", x.unlike(), 1);
     }
 
     private static void bracket(String sentence, int from, int to, String then) {

@@ -186,6 +186,10 @@ public final class SentenceTest {
         DUE.is("node(0, 0, -1)", x.node(0, 0, -1), -2);
         DUE.is("count(11)", x.count(11), 5);
         DUE.is("count(12)", x.count(12), 2);
+        MayBeRead two = Due.of("a&b|c");
+        DUE.is("node(0, 0, 0) of two", two.node(0, 0, 0), 3);
+        DUE.is("node(1, 0, 0) of two", two.node(1, 0, 0), 4);
+        DUE.is("node(0, 0, 0) of two again", two.node(0, 0, 0), 3);
         DUE.is("node(9, 99, 9) where spent", Due.of("a|a|a|a|a|a|a|a").node(9, 99, 9), -5);
     }
 
