@@ -451,8 +451,7 @@ public final class MayBeRead {
     }
 
     private static long casesOf(int letter) {
-        int mark = letter - 'a';
-        return mark >= 0 && mark < MARK_CASES.length ? MARK_CASES[mark] : 0;
+        return look(MARK_CASES, letter - 'a');
     }
 
     private static boolean isJoin(int kind) {
@@ -955,8 +954,8 @@ public final class MayBeRead {
                 if (isMet(i, a) && isMet(i, b)) {
                     return false;
                 }
-                byA |= isMet(i, a);
-                byB |= isMet(i, b);
+                byA = byA || isMet(i, a);
+                byB = byB || isMet(i, b);
             }
             return byA && byB;
         }
@@ -1165,7 +1164,7 @@ public final class MayBeRead {
             size = 0;
             every = 0;
             for (int i = 0; i < nodeBits.length; i++) {
-                nodeBits[i] = 0;
+                put(nodeBits, i, 0);
             }
             // Node 0 is the whole sentence.
             for (int i = 1; i < tree.size(); i++) {

@@ -27,6 +27,8 @@ public final class FaceTest {
         noOtherMembers();
         noPrivateMethodNamedAsAPublicOne();
         form();
+        noMasksOfBooleans();
+        rowsThroughLookAndPutAlone();
         nothingThrows();
         DUE.finish();
     }
@@ -86,8 +88,13 @@ public final class FaceTest {
         }
     }
 
+    /** The source without its comments. */
+    private static String code() throws IOException {
+        return Files.readString(SOURCE).replaceAll("(?s)/\\*.*?\\*/", "").replaceAll("//.*", "");
+    }
+
     private static void form() throws IOException {
-        String code = Files.readString(SOURCE).replaceAll("(?s)/\\*.*?\\*/", "").replaceAll("//.*", "");
+        String code = code();
         Matcher barred = Pattern.compile("\\b(throw|throws|try|catch|synchronized|assert|import|package|while|protected|"
                 + "volatile|System|Object|Random|Thread|hashCode|equals|toString|\\w+Exact)\\b|->|::|\\bpublic \\w*\\s*static").matcher(code);
         while (barred.find()) {
@@ -104,6 +111,31 @@ public final class FaceTest {
             DUE.that("at most sixty lines: " + methods.group(), methods.group().lines().count() <= 60);
         }
         DUE.that("the methods are seen", seen > 80);
+    }
+
+    /** Rule 10 has masks of int and long alone; of booleans it has && and ||. */
+    private static void noMasksOfBooleans() throws IOException {
+        String code = code();
+        Matcher booleans = Pattern.compile("\\bboolean (\\w+)\\b(?!\\()").matcher(code);
+        int seen = 0;
+        while (booleans.find()) {
+            seen++;
+            Matcher masked = Pattern.compile("\\b" + booleans.group(1) + " ([|&^]=?) ").matcher(code);
+            while (masked.find()) {
+                DUE.that("no mask of a boolean: " + masked.group(), false);
+            }
+        }
+        DUE.that("the booleans are seen", seen > 5);
+    }
+
+    private static void rowsThroughLookAndPutAlone() throws IOException {
+        Matcher accesses = Pattern.compile("\\w+\\[\\w[^\\]]*]").matcher(code().replaceAll("new \\w+\\[[^\\]]*]", ""));
+        int seen = 0;
+        while (accesses.find()) {
+            seen++;
+            DUE.that("looked into by look and put alone: " + accesses.group(), accesses.group().equals("row[i]"));
+        }
+        DUE.is("places where a row is looked into", seen, 4);
     }
 
     private static final int[] EDGES = {Integer.MIN_VALUE, -1000, -100, -99, -21, -9, -2, -1, 0, 1, 2, 5, 6, 7, 8, 9, 20,
